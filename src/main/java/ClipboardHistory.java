@@ -1007,7 +1007,7 @@ public final class ClipboardHistory {
         boolean pinned;
         int uses;
         int lastUse;
-        /** The entry's number before a trial, by which it is known in it. */
+        /** The entry's number before a trial, by which it is known in it; no part of the state. */
         int tag;
 
         void begin(int f, int formSize, int time) {
@@ -1030,14 +1030,13 @@ public final class ClipboardHistory {
             pinned = other.pinned;
             uses = other.uses;
             lastUse = other.lastUse;
-            tag = other.tag;
         }
 
+        /** Only for a format in which the entry has no form, so that the size stays the sum. */
         void putForm(int f, int formSize, int loss, boolean isDerived) {
-            if (f < 0 || f >= MAX_FORMATS) {
+            if (f < 0 || f >= MAX_FORMATS || holds(f)) {
                 return;
             }
-            dropForm(f);
             sizes[f] = formSize;
             losses[f] = loss;
             size += formSize;

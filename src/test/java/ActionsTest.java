@@ -12,6 +12,8 @@ public final class ActionsTest {
         copyRemovesDerivedFormsFirst();
         copyRemovesTheLargestDerivedForm();
         copyRemovesEntriesAfterAllDerivedForms();
+        copyRemovesDerivedFormsOfFormatZero();
+        copyRemovesWeightlessEntries();
         twelveEntries();
         twelvePinned();
         copyThrows();
@@ -145,6 +147,32 @@ public final class ActionsTest {
         Check.due("P11 the one that was used last", x.entry(1, 5), 4);
     }
 
+    private static void copyRemovesDerivedFormsOfFormatZero() {
+        ClipboardHistory x = Check.loaded("K200500c1010101p0:00400");
+        x.copy(1, 100);
+        x.paste(0, 0);
+        Check.due("P13 the derived form is that of format 0", x.entry(0, 2), 1);
+        Check.due("P11 it goes", x.copy(1, 400), 500);
+        Check.due("P11 its entry stays", x.entry(1, 1), 2);
+        ClipboardHistory y = Check.loaded("K300900c1010101c1210101p0:00400p2:00400");
+        y.copy(1, 100);
+        y.paste(0, 1);
+        y.paste(0, 0);
+        Check.due("P11 of the formats 0 and 2 the lowest goes", y.copy(1, 700), 900);
+        Check.due("P11 format 2 stays", y.entry(1, 2), 4);
+    }
+
+    private static void copyRemovesWeightlessEntries() {
+        ClipboardHistory x = Check.loaded("K100010p0:00400");
+        x.copy(0, 1);
+        for (int i = 0; i < 5; i++) {
+            x.paste(0, 0);
+        }
+        Check.due("P9 its weight", x.entry(0, 6), 0);
+        Check.due("P11 it goes all the same", x.copy(0, 10), 10);
+        Check.due("P11 one entry", x.about(3), 1);
+    }
+
     private static ClipboardHistory twelve() {
         ClipboardHistory x = new ClipboardHistory();
         for (int i = 1; i <= 12; i++) {
@@ -236,6 +264,15 @@ public final class ActionsTest {
         Check.due("P12 the uses stay", x.entry(0, 4), 1);
         x.undo();
         Check.due("P12 a smaller one", x.offer(1, 7), 107);
+
+        ClipboardHistory y = Check.loaded(FORK);
+        y.copy(0, 50);
+        y.paste(0, 0);
+        y.copy(0, 100);
+        y.paste(0, 0);
+        y.setBudget(310);
+        Check.due("P12 the own derived form goes before room is made", y.offer(1, 110), 310);
+        Check.due("P12 so the other one's stays", y.entry(1, 2), 2);
     }
 
     private static void offerTouchesOnlyOthers() {
@@ -423,6 +460,9 @@ public final class ActionsTest {
         Check.due("P15 remove(0)", x.remove(0), 3);
         Check.index("P15 none is left", () -> x.remove(0));
         Check.due("P15 a new entry has no old form", x.copy(2, 5), 5);
+        x.togglePin(0);
+        x.remove(0);
+        x.copy(2, 6);
         Check.due("P15 nor an old pin", x.entry(0, 3), 0);
     }
 

@@ -137,6 +137,11 @@ public final class PastingTest {
         ClipboardHistory z = Check.loaded("K200900p1:00900");
         z.copy(0, 5);
         Check.due("P28 none fits", z.bestFor(0), NONE);
+        z.copy(1, 5);
+        for (int i = 0; i < 10; i++) {
+            z.copy(0, 5);
+        }
+        Check.due("P28 the eleventh of twelve", z.bestFor(0), 10);
     }
 
     private static void bestForThrows() {
@@ -256,6 +261,28 @@ public final class PastingTest {
         for (int i = 0; i < 4; i++) {
             Check.due("P31 after a use: ranked(" + i + ")", x.ranked(i), last[i]);
         }
+        ClipboardHistory y = new ClipboardHistory();
+        y.copy(0, 30);
+        y.copy(0, 40);
+        y.copy(0, 60);
+        y.copy(0, 1);
+        // at the time 4: 1, 60 * 2, 40 * 3, 30 * 4
+        int[] equals = {3, 2, 1, 0};
+        for (int i = 0; i < 4; i++) {
+            Check.due("P31 three equals: ranked(" + i + ")", y.ranked(i), equals[i]);
+        }
+        ClipboardHistory z = new ClipboardHistory();
+        z.copy(0, 11);
+        z.copy(0, 21);
+        // 22 and 21, then twelve entries
+        Check.due("P31 heavier by one", z.ranked(0), 1);
+        Check.due("P31 lighter by one", z.ranked(1), 0);
+        for (int i = 0; i < 10; i++) {
+            z.copy(0, 1);
+        }
+        Check.due("P31 the first of twelve", z.ranked(0), 10);
+        Check.due("P31 the second of twelve", z.ranked(1), 11);
+        Check.due("P31 the last of twelve", z.ranked(11), 0);
         Check.index("P31 ranked(4)", () -> x.ranked(4));
         for (int wrong : WRONG) {
             Check.index("P31 ranked(" + wrong + ")", () -> x.ranked(wrong));

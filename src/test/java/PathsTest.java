@@ -124,6 +124,8 @@ public final class PathsTest {
         Check.due("P21 each step rounded", x.sizeAfter(0, 2, 1), 7);
         Check.due("P21 6.6 and 0.7 rounded up", x.sizeAfter(1, 3, 2), 1);
         Check.due("P21 nothing to round", x.sizeAfter(0, 1, 20), 30);
+        Check.due("P21 36.3 rounded up", x.sizeAfter(1, 2, 11), 37);
+        Check.due("P21 1.1 rounded up", x.sizeAfter(2, 3, 11), 2);
         Check.due("P21 none", x.sizeAfter(3, 0, 1), NONE);
         Check.argument("P21 size 0", () -> x.sizeAfter(0, 1, 0));
         Check.argument("P21 size 100000", () -> x.sizeAfter(0, 1, 100000));
@@ -212,6 +214,7 @@ public final class PathsTest {
         Check.due("P25 the third is not", x.idle(), 4);
         x.setCost(2, 5);
         Check.due("P25 it is again", x.idle(), 0);
+        Check.due("P25 a step into format 0", Check.loaded("K200500c1001100").idle(), 0);
         ClipboardHistory y = Check.loaded("K400500c0150100c0201100c2101100c1350100c2301100c3101100");
         Check.due("P25 0 1 is dearer than 0 2 1", y.idle(), 1);
         y.setCost(4, 99);

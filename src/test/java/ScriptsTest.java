@@ -12,6 +12,7 @@ public final class ScriptsTest {
         Check.same("P32 the state after scripts", Check.seen(x), before);
         Check.due("P32 a script is no action", x.undo(), 0);
         twoDigits();
+        greatSizes();
         scriptThrows();
         simulatedCopies();
         simulatedPastes();
@@ -81,6 +82,14 @@ public final class ScriptsTest {
         Check.due("P32 entry 10 goes, not 1 of 78", x.runScript(2, 510000600075L), 1);
     }
 
+    private static void greatSizes() {
+        ClipboardHistory x = Check.loaded("K299999");
+        Check.due("P32 9999 in format 0", x.runScript(3, 109999800000609999L), NONE);
+        Check.due("P32 9999 in format 1", x.runScript(3, 119999800100609999L), NONE);
+        Check.due("P32 offer 9999 in format 0", x.runScript(3, 110001209999800000L), NONE);
+        Check.due("P32 no format 2", x.runScript(1, 129999), 0);
+    }
+
     private static void scriptThrows() {
         ClipboardHistory x = new ClipboardHistory();
         int[] numbers = {0, 4, -1, Integer.MIN_VALUE, Integer.MAX_VALUE};
@@ -127,10 +136,9 @@ public final class ScriptsTest {
         Check.due("P33 a simulation is no action", x.undo(), 0);
     }
 
-    /** Two entries and two places: what a paste answers tells which ones it took. */
+    /** Two entries, and one or two places: what a paste answers tells which ones it took. */
     private static void simulatedPastes() {
-        ClipboardHistory x = Check.loaded("K200999c0110101c1099101p1:00400p1:00400");
-        x.setBudget(99999);
+        ClipboardHistory x = Check.loaded("K299999c0110101c1099101p1:00400");
         x.copy(0, 30);
         x.copy(0, 100);
         ClipboardHistory y = Check.loaded("K399999c0110101c0220101p1:00400p2:00400");

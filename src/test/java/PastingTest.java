@@ -11,6 +11,7 @@ public final class PastingTest {
         wayOfTheLowestFormats();
         wayWithinTheLimit();
         wayAlongTheBestPathOnly();
+        wayOfEightFormats();
         wayThrows();
         bestFor();
         bestForThrows();
@@ -94,6 +95,15 @@ public final class PastingTest {
         Check.state("P13 nor can it be pasted", () -> x.paste(0, 0));
         x.setCost(0, 7);
         way("it is when it is the best", x, 0, 0, 6, 0, 1, 50, 0);
+    }
+
+    private static void wayOfEightFormats() {
+        ClipboardHistory x = Check.loaded("K800900c0710101c7610201p67:00900");
+        x.copy(0, 50);
+        way("into the last format", x, 0, 0, 10, 0, 7, 50, 1);
+        x.setCost(0, 99);
+        x.offer(7, 460);
+        way("in the last format", x, 0, 0, 0, 7, 7, 460, 0);
     }
 
     private static void wayThrows() {

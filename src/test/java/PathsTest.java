@@ -114,6 +114,7 @@ public final class PathsTest {
         Check.due("P26 in the middle", x.between(1), 12);
         Check.due("P26 at the end", x.between(3), 0);
         Check.due("P22 all", x.reachable(7), 255);
+        Check.due("P25 all are of use", x.idle(), 0);
         Check.due("P23 a cut", x.without(3, 7, 3), NONE);
     }
 

@@ -39,19 +39,19 @@ public final class ActionsTest {
         Check.finish("ActionsTest");
     }
 
-    /** A call that throws, after which nothing may be different. */
-    private static void refused(String what, ClipboardHistory x, Class<? extends RuntimeException> want, Check.Call call) {
-        String before = Check.seen(x);
+    /** A call that throws; the edge tests look closer at what it leaves. */
+    private static void refused(String what, Clip x, Class<? extends RuntimeException> want, Check.Call call) {
+        String before = Check.brief(x);
         Check.fails(what, want, call);
-        Check.same(what + ": the state", Check.seen(x), before);
+        Check.same(what + ": the state", Check.brief(x), before);
     }
 
-    private static void stateRefused(String what, ClipboardHistory x, Check.Call call) {
+    private static void stateRefused(String what, Clip x, Check.Call call) {
         refused(what, x, IllegalStateException.class, call);
     }
 
     private static void copy() {
-        ClipboardHistory x = Check.loaded(FORK);
+        Clip x = Check.loaded(FORK);
         Check.due("P11 copy(2, 9)", x.copy(2, 9), 9);
         Check.due("P11 copy(0, 1)", x.copy(0, 1), 10);
         Check.due("P11 two entries", x.about(3), 2);
@@ -68,7 +68,7 @@ public final class ActionsTest {
     }
 
     private static void copyMakesRoomAtTheNewTime() {
-        ClipboardHistory x = new ClipboardHistory();
+        Clip x = new Clip();
         x.copy(0, 10);
         x.copy(0, 1);
         x.copy(0, 30);
@@ -79,7 +79,7 @@ public final class ActionsTest {
     }
 
     private static void copyRemovesTheLastOfEquals() {
-        ClipboardHistory x = new ClipboardHistory();
+        Clip x = new Clip();
         x.copy(0, 10);
         x.copy(0, 1);
         x.copy(0, 20);
@@ -90,7 +90,7 @@ public final class ActionsTest {
     }
 
     private static void copyRemovesDerivedFormsFirst() {
-        ClipboardHistory x = Check.loaded(FORK);
+        Clip x = Check.loaded(FORK);
         x.copy(0, 100);
         x.paste(0, 0);
         x.paste(0, 1);
@@ -105,7 +105,7 @@ public final class ActionsTest {
     }
 
     private static void copyRemovesTheLargestDerivedForm() {
-        ClipboardHistory x = Check.loaded(FORK);
+        Clip x = Check.loaded(FORK);
         x.copy(0, 100);
         x.paste(0, 0);
         x.copy(0, 100);
@@ -114,7 +114,7 @@ public final class ActionsTest {
         Check.due("P11 the newer entry's form", x.entry(1, 2), 2);
         Check.due("P11 the older entry's form", x.entry(2, 2), 0);
 
-        ClipboardHistory y = Check.loaded(FORK);
+        Clip y = Check.loaded(FORK);
         y.copy(0, 100);
         y.paste(0, 0);
         y.copy(0, 101);
@@ -123,7 +123,7 @@ public final class ActionsTest {
         Check.due("P11 the larger one is gone", y.entry(1, 2), 0);
         Check.due("P11 the smaller one stays", y.entry(2, 2), 2);
 
-        ClipboardHistory z = Check.loaded("K300500c0110101c0210111p1:00400p2:00400");
+        Clip z = Check.loaded("K300500c0110101c0210111p1:00400p2:00400");
         z.copy(0, 100);
         z.paste(0, 0);
         z.paste(0, 1);
@@ -133,7 +133,7 @@ public final class ActionsTest {
     }
 
     private static void copyRemovesEntriesAfterAllDerivedForms() {
-        ClipboardHistory x = Check.loaded(FORK);
+        Clip x = Check.loaded(FORK);
         x.copy(0, 100);
         x.paste(0, 0);
         x.copy(0, 100);
@@ -148,13 +148,13 @@ public final class ActionsTest {
     }
 
     private static void copyRemovesDerivedFormsOfFormatZero() {
-        ClipboardHistory x = Check.loaded("K200500c1010101p0:00400");
+        Clip x = Check.loaded("K200500c1010101p0:00400");
         x.copy(1, 100);
         x.paste(0, 0);
         Check.due("P13 the derived form is that of format 0", x.entry(0, 2), 1);
         Check.due("P11 it goes", x.copy(1, 400), 500);
         Check.due("P11 its entry stays", x.entry(1, 1), 2);
-        ClipboardHistory y = Check.loaded("K300900c1010101c1210101p0:00400p2:00400");
+        Clip y = Check.loaded("K300900c1010101c1210101p0:00400p2:00400");
         y.copy(1, 100);
         y.paste(0, 1);
         y.paste(0, 0);
@@ -163,7 +163,7 @@ public final class ActionsTest {
     }
 
     private static void copyRemovesWeightlessEntries() {
-        ClipboardHistory x = Check.loaded("K100010p0:00400");
+        Clip x = Check.loaded("K100010p0:00400");
         x.copy(0, 1);
         for (int i = 0; i < 5; i++) {
             x.paste(0, 0);
@@ -173,8 +173,8 @@ public final class ActionsTest {
         Check.due("P11 one entry", x.about(3), 1);
     }
 
-    private static ClipboardHistory twelve() {
-        ClipboardHistory x = new ClipboardHistory();
+    private static Clip twelve() {
+        Clip x = new Clip();
         for (int i = 1; i <= 12; i++) {
             x.copy(0, i == 5 ? 50 : 10);
         }
@@ -182,19 +182,19 @@ public final class ActionsTest {
     }
 
     private static void twelveEntries() {
-        ClipboardHistory x = twelve();
+        Clip x = twelve();
         Check.due("P11 twelve entries", x.about(3), 12);
         Check.due("P11 the heaviest goes though there is room", x.copy(0, 10), 120);
         Check.due("P11 still twelve", x.about(3), 12);
         Check.due("P11 the oldest is there", x.entry(11, 5), 1);
 
-        ClipboardHistory y = twelve();
+        Clip y = twelve();
         y.togglePin(7);
         Check.due("P11 a pinned one stays", y.copy(0, 10), 160);
         Check.due("P11 the oldest of the others went", y.entry(11, 5), 2);
         Check.due("P11 the pinned one has the next number", y.entry(8, 0), 50);
 
-        ClipboardHistory z = new ClipboardHistory();
+        Clip z = new Clip();
         for (int i = 0; i < 12; i++) {
             z.copy(0, i == 11 ? 24 : i == 0 ? 2 : 1);
         }
@@ -203,7 +203,7 @@ public final class ActionsTest {
     }
 
     private static void twelvePinned() {
-        ClipboardHistory x = new ClipboardHistory();
+        Clip x = new Clip();
         for (int i = 0; i < 12; i++) {
             x.copy(0, i == 0 ? 5 : 90);
             x.togglePin(0);
@@ -216,7 +216,7 @@ public final class ActionsTest {
     }
 
     private static void copyThrows() {
-        ClipboardHistory x = Check.loaded(FORK);
+        Clip x = Check.loaded(FORK);
         x.copy(0, 100);
         x.togglePin(0);
         stateRefused("P11 no room beside a pinned entry", x, () -> x.copy(0, 401));
@@ -234,7 +234,7 @@ public final class ActionsTest {
     }
 
     private static void offer() {
-        ClipboardHistory x = Check.loaded(FORK);
+        Clip x = Check.loaded(FORK);
         x.copy(0, 100);
         x.copy(0, 50);
         Check.due("P12 offer(1, 30)", x.offer(1, 30), 180);
@@ -251,7 +251,7 @@ public final class ActionsTest {
     }
 
     private static void offerReplacesADerivedForm() {
-        ClipboardHistory x = Check.loaded(FORK);
+        Clip x = Check.loaded(FORK);
         x.copy(0, 100);
         x.paste(0, 0);
         x.setBudget(200);
@@ -265,7 +265,7 @@ public final class ActionsTest {
         x.undo();
         Check.due("P12 a smaller one", x.offer(1, 7), 107);
 
-        ClipboardHistory y = Check.loaded(FORK);
+        Clip y = Check.loaded(FORK);
         y.copy(0, 50);
         y.paste(0, 0);
         y.copy(0, 100);
@@ -276,7 +276,7 @@ public final class ActionsTest {
     }
 
     private static void offerTouchesOnlyOthers() {
-        ClipboardHistory x = Check.loaded(FORK);
+        Clip x = Check.loaded(FORK);
         x.copy(0, 60);
         x.paste(0, 0);
         x.copy(0, 50);
@@ -300,7 +300,7 @@ public final class ActionsTest {
     }
 
     private static void offerThrows() {
-        ClipboardHistory x = Check.loaded(FORK);
+        Clip x = Check.loaded(FORK);
         Check.state("P12 no entry", () -> x.offer(0, 1));
         x.copy(0, 400);
         stateRefused("P12 an original form in this format", x, () -> x.offer(0, 1));
@@ -318,7 +318,7 @@ public final class ActionsTest {
     }
 
     private static void paste() {
-        ClipboardHistory x = Check.loaded("K300500c0105151c1202052p2:00100");
+        Clip x = Check.loaded("K300500c0105151c1202052p2:00100");
         x.copy(0, 101);
         Check.due("P13 paste(0, 0)", x.paste(0, 0), 2);
         Check.due("P13 the time", x.about(6), 2);
@@ -333,7 +333,7 @@ public final class ActionsTest {
     }
 
     private static void pasteIntoAHeldFormat() {
-        ClipboardHistory x = Check.loaded(FORK);
+        Clip x = Check.loaded(FORK);
         x.copy(0, 100);
         x.paste(0, 0);
         Check.due("P13 paste again", x.paste(0, 0), 1);
@@ -345,7 +345,7 @@ public final class ActionsTest {
     }
 
     private static void pasteMakesRoomByDerivedFormsOnly() {
-        ClipboardHistory x = Check.loaded(FORK);
+        Clip x = Check.loaded(FORK);
         x.copy(0, 60);
         x.paste(0, 0);
         x.togglePin(0);
@@ -364,7 +364,7 @@ public final class ActionsTest {
     }
 
     private static void pasteWithoutRoomRemovesNothing() {
-        ClipboardHistory x = Check.loaded(FORK);
+        Clip x = Check.loaded(FORK);
         x.copy(0, 100);
         x.copy(0, 350);
         Check.due("P13 paste(1, 0)", x.paste(1, 0), 1);
@@ -379,7 +379,7 @@ public final class ActionsTest {
     }
 
     private static void pasteAlongADerivedForm() {
-        ClipboardHistory x = Check.loaded("K300500c0105102c1203204c0290100p1:00400p2:00400");
+        Clip x = Check.loaded("K300500c0105102c1203204c0290100p1:00400p2:00400");
         x.copy(0, 10);
         x.paste(0, 0);
         Check.due("P13 the way begins with the derived form", x.way(0, 1, 1), 1);
@@ -390,7 +390,7 @@ public final class ActionsTest {
     }
 
     private static void pasteMovesToTheFront() {
-        ClipboardHistory x = Check.loaded(FORK);
+        Clip x = Check.loaded(FORK);
         for (int size = 1; size <= 4; size++) {
             x.copy(0, size);
         }
@@ -405,7 +405,7 @@ public final class ActionsTest {
     }
 
     private static void pasteThrows() {
-        ClipboardHistory x = Check.loaded(FORK);
+        Clip x = Check.loaded(FORK);
         Check.index("P13 no entry", () -> x.paste(0, 0));
         x.copy(0, 401);
         x.copy(1, 9);
@@ -421,7 +421,7 @@ public final class ActionsTest {
     }
 
     private static void togglePin() {
-        ClipboardHistory x = new ClipboardHistory();
+        Clip x = new Clip();
         x.copy(0, 1);
         x.copy(0, 2);
         Check.due("P14 pin", x.togglePin(1), 1);
@@ -440,7 +440,7 @@ public final class ActionsTest {
     }
 
     private static void remove() {
-        ClipboardHistory x = Check.loaded(FORK);
+        Clip x = Check.loaded(FORK);
         x.copy(0, 1);
         x.copy(0, 20);
         x.offer(1, 7);
@@ -467,7 +467,7 @@ public final class ActionsTest {
     }
 
     private static void setBudget() {
-        ClipboardHistory x = Check.loaded(FORK);
+        Clip x = Check.loaded(FORK);
         x.copy(0, 100);
         x.paste(0, 0);
         x.copy(0, 60);
@@ -481,7 +481,7 @@ public final class ActionsTest {
         Check.due("P16 five actions more", x.undo(), 7);
         Check.due("P16 the budget is part of the state", x.about(4), 1);
 
-        ClipboardHistory y = new ClipboardHistory();
+        Clip y = new Clip();
         y.copy(0, 10);
         y.copy(0, 1);
         y.copy(0, 30);
@@ -489,7 +489,7 @@ public final class ActionsTest {
     }
 
     private static void setBudgetThrows() {
-        ClipboardHistory x = new ClipboardHistory();
+        Clip x = new Clip();
         x.copy(0, 100);
         x.copy(0, 200);
         x.togglePin(0);
@@ -504,7 +504,7 @@ public final class ActionsTest {
     }
 
     private static void setCost() {
-        ClipboardHistory x = Check.loaded(FORK);
+        Clip x = Check.loaded(FORK);
         Check.due("P17 setCost(0, 1)", x.setCost(0, 1), 10);
         Check.due("P17 setCost(0, 99)", x.setCost(0, 99), 1);
         Check.due("P17 the cost", x.conversion(0, 2), 99);
@@ -526,7 +526,7 @@ public final class ActionsTest {
     }
 
     private static void undo() {
-        ClipboardHistory x = Check.loaded(FORK);
+        Clip x = Check.loaded(FORK);
         Check.state("P18 nothing is remembered", x::undo);
         x.setCost(0, 7);
         x.copy(0, 5);
@@ -544,7 +544,7 @@ public final class ActionsTest {
     }
 
     private static void undoForgetsTheOldest() {
-        ClipboardHistory x = new ClipboardHistory();
+        Clip x = new Clip();
         for (int size = 1; size <= 16; size++) {
             x.copy(0, 1);
             x.remove(0);
@@ -560,15 +560,15 @@ public final class ActionsTest {
     }
 
     private static void undoOfEachAction() {
-        ClipboardHistory x = Check.loaded(FORK);
-        x.copy(0, 100);
-        x.paste(0, 0);
-        x.copy(0, 100);
-        Check.Call[] actions = {() -> x.copy(1, 300), () -> x.offer(1, 9), () -> x.paste(1, 1), () -> x.togglePin(1),
-            () -> x.remove(0), () -> x.setBudget(110), () -> x.setCost(1, 4)};
-        String before = Check.seen(x);
+        Edge.On[] actions = {x -> x.copy(1, 300), x -> x.offer(1, 9), x -> x.paste(1, 1), x -> x.togglePin(1),
+            x -> x.remove(0), x -> x.setBudget(110), x -> x.setCost(1, 4)};
         for (int i = 0; i < actions.length; i++) {
-            Check.outcome(actions[i]);
+            Clip x = Check.loaded(FORK);
+            x.copy(0, 100);
+            x.paste(0, 0);
+            x.copy(0, 100);
+            String before = Check.seen(x);
+            actions[i].run(x);
             if (Check.seen(x).equals(before)) {
                 Check.wrong("P18 action " + i + " changed nothing");
             }

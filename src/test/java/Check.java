@@ -23,6 +23,14 @@ final class Check {
         }
     }
 
+    static void answers(String what, int want, Call call) {
+        Object got = outcome(call);
+        if (!got.equals(want)) {
+            wrong++;
+            System.out.println(what + " answered " + got + ", due is " + want);
+        }
+    }
+
     static void index(String what, Call call) {
         fails(what, IndexOutOfBoundsException.class, call);
     }
@@ -54,7 +62,7 @@ final class Check {
     }
 
     /** Puts a text into the empty buffer. */
-    static ClipboardHistory withText(ClipboardHistory x, String text) {
+    static Clip withText(Clip x, String text) {
         x.clearText();
         for (char c : text.toCharArray()) {
             x.append(c);
@@ -63,40 +71,55 @@ final class Check {
     }
 
     /** A new object that has loaded a text. */
-    static ClipboardHistory loaded(String text) {
-        ClipboardHistory x = withText(new ClipboardHistory(), text);
+    static Clip loaded(String text) {
+        Clip x = withText(new Clip(), text);
         x.load();
         return x;
     }
 
     /** All that the questions about the state tell, so that two states can be compared. */
-    static String seen(ClipboardHistory x) {
+    static String seen(Clip x) {
         StringBuilder s = new StringBuilder();
+        int[] about = new int[8];
         for (int what = 0; what < 8; what++) {
-            s.append(x.about(what)).append(' ');
+            about[what] = x.about(what);
+            s.append(about[what]).append(' ');
         }
-        for (int c = 0; c < x.about(1); c++) {
+        for (int c = 0; c < about[1]; c++) {
             for (int what = 0; what < 5; what++) {
                 s.append(x.conversion(c, what)).append(what < 4 ? "," : " ");
             }
         }
-        for (int p = 0; p < x.about(2); p++) {
+        for (int p = 0; p < about[2]; p++) {
             s.append(x.place(p, 0)).append(':').append(x.place(p, 1)).append(' ');
         }
-        for (int e = 0; e < x.about(3); e++) {
+        for (int e = 0; e < about[3]; e++) {
             s.append('[');
             for (int what = 0; what < 7; what++) {
                 s.append(x.entry(e, what)).append(' ');
             }
-            for (int f = 0; f < x.about(0); f++) {
+            for (int f = 0; f < about[0]; f++) {
                 s.append(x.form(e, f, false)).append('/').append(x.form(e, f, true)).append(' ');
             }
             s.append(']');
         }
-        for (int a = 0; a < x.about(0); a++) {
-            for (int b = 0; b < x.about(0); b++) {
+        for (int a = 0; a < about[0]; a++) {
+            for (int b = 0; b < about[0]; b++) {
                 s.append(x.path(a, b, 0)).append(' ');
             }
+        }
+        return s.toString();
+    }
+
+    /** The numbers that nearly every change of the state changes, in a few calls. */
+    static String brief(Clip x) {
+        StringBuilder s = new StringBuilder();
+        for (int what = 3; what < 8; what++) {
+            s.append(x.about(what)).append(' ');
+        }
+        int conversions = x.about(1);
+        for (int c = 0; c < conversions; c++) {
+            s.append(x.conversion(c, 2)).append(c + 1 < conversions ? "," : " ");
         }
         return s.toString();
     }

@@ -635,7 +635,8 @@ final class Model {
     }
 
     int room() {
-        for (int size = 9999; size >= 1; size--) {
+        // nothing larger than the budget can be copied at all
+        for (int size = Math.min(9999, now.budget); size >= 1; size--) {
             if (victims(size) == 0) {
                 return size;
             }

@@ -18,8 +18,11 @@ public final class ModelTest {
         "form", "path", "step", "sizeAfter", "reachable", "without", "between", "way", "way", "bestFor", "victims", "victims",
         "ranked", "runScript", "runScript", "simulate", "append", "clearText", "errorPosition", "load"};
 
+    /** An object is promised to answer so many calls. */
+    private static final int CALLS = 512;
+
     private final Random random;
-    private final ClipboardHistory ours = new ClipboardHistory();
+    private final Clip ours = new Clip();
     private final Model theirs = new Model();
     private final List<String> log = new ArrayList<>();
     /** Entries of nearly the same size have equal weights again and again. */
@@ -33,9 +36,9 @@ public final class ModelTest {
     }
 
     public static void main(String[] args) {
-        int runs = args.length > 0 ? Integer.parseInt(args[0]) : 1500;
+        int runs = args.length > 0 ? Integer.parseInt(args[0]) : 2500;
         long from = args.length > 1 ? Long.parseLong(args[1]) : 0;
-        for (Method m : ClipboardHistory.class.getDeclaredMethods()) {
+        for (Method m : Clip.class.getDeclaredMethods()) {
             OURS.put(m.getName(), m);
         }
         for (Method m : Model.class.getDeclaredMethods()) {
@@ -46,7 +49,7 @@ public final class ModelTest {
             if (seed % 3 == 0) {
                 run.texts();
             } else {
-                run.states(150);
+                run.states();
             }
         }
         Check.finish("ModelTest");
@@ -82,8 +85,13 @@ public final class ModelTest {
         }
     }
 
+    private boolean callsLeft(int wanted) {
+        return good && ours.calls() + wanted <= CALLS;
+    }
+
     private void texts() {
-        for (int i = 0; i < 8 && good; i++) {
+        // a text and what there is after it take at most some 300 calls
+        while (callsLeft(300)) {
             StringBuilder text = new StringBuilder(text(1 + random.nextInt(8), random.nextInt(100) < 30 ? 99 : random.nextInt(12)));
             if (random.nextInt(3) > 0 && text.length() > 0) {
                 int at = random.nextInt(text.length());
@@ -98,7 +106,7 @@ public final class ModelTest {
             type(text.toString());
             both("errorPosition");
             both("load");
-            digest();
+            whatThereIs();
         }
     }
 
@@ -153,7 +161,7 @@ public final class ModelTest {
 
     // ---- states
 
-    private void states(int calls) {
+    private void states() {
         int formats = 1 + random.nextInt(8);
         StringBuilder s = new StringBuilder(text(formats, 6 + random.nextInt(12)));
         for (int i = 0; i < 3; i++) {
@@ -164,7 +172,7 @@ public final class ModelTest {
         }
         type(s.toString());
         both("load");
-        for (int i = 0; i < calls && good; i++) {
+        while (callsLeft(160)) {
             draw(DRAWN[random.nextInt(DRAWN.length)]);
             if (random.nextInt(5) == 0) {
                 digest();
@@ -174,7 +182,7 @@ public final class ModelTest {
         both("worth", count(1));
         both("worth", count(1));
         both("room");
-        for (int i = 0; i < 15 && good; i++) {
+        while (callsLeft(30)) {
             both("undo");
             digest();
         }
@@ -280,18 +288,25 @@ public final class ModelTest {
         }
     }
 
+    /** Some numbers, and all of one entry. */
     private void digest() {
-        for (int what = 0; what < 8; what++) {
+        for (int what = 3; what < 8; what++) {
             both("about", what);
         }
-        for (int e = 0; e < theirs.about(3) && good; e++) {
+        int e = random.nextInt(12);
+        if (e < theirs.about(3)) {
             for (int what = 0; what < 7; what++) {
                 both("entry", e, what);
             }
             for (int f = 0; f < theirs.about(0); f++) {
-                both("form", e, f, false);
-                both("form", e, f, true);
+                both("form", e, f, random.nextBoolean());
             }
+        }
+    }
+
+    private void whatThereIs() {
+        for (int what = 0; what < 8; what++) {
+            both("about", what);
         }
         for (int c = 0; c < theirs.about(1) && good; c++) {
             for (int what = 0; what < 5; what++) {

@@ -25,14 +25,14 @@ public final class PastingTest {
         Check.finish("PastingTest");
     }
 
-    private static void way(String what, ClipboardHistory x, int e, int p, int... due) {
+    private static void way(String what, Clip x, int e, int p, int... due) {
         for (int i = 0; i < 5; i++) {
             Check.due("P27 " + what + ": way(" + e + ", " + p + ", " + i + ")", x.way(e, p, i), due.length == 0 ? NONE : due[i]);
         }
     }
 
     private static void way() {
-        ClipboardHistory x = Check.loaded("K300500c0105151c1202052p02:00100p1:00030p2:00100");
+        Clip x = Check.loaded("K300500c0105151c1202052p02:00100p1:00030p2:00100");
         x.copy(0, 101);
         way("over 1 into 2, 101 itself is too large", x, 0, 0, 7, 0, 2, 76, 3);
         way("152 is too large", x, 0, 1);
@@ -45,7 +45,7 @@ public final class PastingTest {
     }
 
     private static void wayOfTheSmallestCost() {
-        ClipboardHistory x = Check.loaded("K400900c0304100c2103109c1301100p13:00900");
+        Clip x = Check.loaded("K400900c0304100c2103109c1301100p13:00900");
         x.copy(0, 50);
         x.offer(2, 60);
         way("2 to 1 costs less than 0 to 3", x, 0, 0, 3, 2, 1, 60, 9);
@@ -54,7 +54,7 @@ public final class PastingTest {
     }
 
     private static void wayOfTheFewestSteps() {
-        ClipboardHistory x = Check.loaded("K500900c0304100c2402100c4102100p13:00900");
+        Clip x = Check.loaded("K500900c0304100c2402100c4102100p13:00900");
         x.copy(0, 50);
         x.offer(2, 60);
         way("one step into 3 before two into 1", x, 0, 0, 4, 0, 3, 50, 0);
@@ -63,12 +63,12 @@ public final class PastingTest {
     }
 
     private static void wayOfTheLowestFormats() {
-        ClipboardHistory x = Check.loaded("K500900c0304100c2104100c0402100c2402100p13:00900p4:00900");
+        Clip x = Check.loaded("K500900c0304100c2104100c0402100c2402100p13:00900p4:00900");
         x.copy(0, 50);
         x.offer(2, 60);
         way("the lowest end", x, 0, 0, 4, 2, 1, 60, 0);
         way("the lowest beginning", x, 0, 1, 2, 0, 4, 50, 0);
-        ClipboardHistory y = Check.loaded("K300900p012:00100");
+        Clip y = Check.loaded("K300900p012:00100");
         y.copy(2, 70);
         y.offer(1, 80);
         y.offer(0, 101);
@@ -76,20 +76,20 @@ public final class PastingTest {
     }
 
     private static void wayWithinTheLimit() {
-        ClipboardHistory x = Check.loaded("K300900c0101200c0205100p12:00100");
+        Clip x = Check.loaded("K300900c0101200c0205100p12:00100");
         x.copy(0, 50);
         way("100 is allowed", x, 0, 0, 1, 0, 1, 100, 0);
         x.copy(0, 51);
         way("102 is not, so the dearer one", x, 0, 0, 5, 0, 2, 51, 0);
         x.copy(0, 101);
         way("neither", x, 0, 0);
-        ClipboardHistory y = Check.loaded("K300900c0101990c1201010p2:00010");
+        Clip y = Check.loaded("K300900c0101990c1201010p2:00010");
         y.copy(0, 10);
         way("only the size at the end counts", y, 0, 0, 2, 0, 2, 10, 0);
     }
 
     private static void wayAlongTheBestPathOnly() {
-        ClipboardHistory x = Check.loaded("K300900c0105500c0203100c2103100p1:00100");
+        Clip x = Check.loaded("K300900c0105500c0203100c2103100p1:00100");
         x.copy(0, 50);
         way("a worse path that would fit is no way", x, 0, 0);
         Check.state("P13 nor can it be pasted", () -> x.paste(0, 0));
@@ -98,7 +98,7 @@ public final class PastingTest {
     }
 
     private static void wayOfEightFormats() {
-        ClipboardHistory x = Check.loaded("K800900c0710101c7610201p67:00900");
+        Clip x = Check.loaded("K800900c0710101c7610201p67:00900");
         x.copy(0, 50);
         way("into the last format", x, 0, 0, 10, 0, 7, 50, 1);
         x.setCost(0, 99);
@@ -107,7 +107,7 @@ public final class PastingTest {
     }
 
     private static void wayThrows() {
-        ClipboardHistory x = Check.loaded(FORK);
+        Clip x = Check.loaded(FORK);
         Check.index("P27 no entry", () -> x.way(0, 0, 0));
         x.copy(1, 10);
         Check.argument("P27 way(0, 0, 5)", () -> x.way(0, 0, 5));
@@ -123,7 +123,7 @@ public final class PastingTest {
     }
 
     private static void bestFor() {
-        ClipboardHistory x = Check.loaded("K500900c0304103c1304102c2304102c4302109p3:00900");
+        Clip x = Check.loaded("K500900c0304103c1304102c2304102c4302109p3:00900");
         Check.due("P28 no entry", x.bestFor(0), NONE);
         x.copy(0, 900);
         x.setBudget(9999);
@@ -138,13 +138,13 @@ public final class PastingTest {
         Check.due("P28 a greater loss", x.bestFor(0), 1);
         x.copy(4, 5);
         Check.due("P28 the smaller cost before the smaller loss", x.bestFor(0), 0);
-        ClipboardHistory y = Check.loaded("K400900c0104100c0202100c2102100c3104101p1:00900");
+        Clip y = Check.loaded("K400900c0104100c0202100c2102100c3104101p1:00900");
         y.copy(0, 5);
         y.copy(3, 5);
         Check.due("P28 steps do not matter, the loss does", y.bestFor(0), 1);
         y.setCost(0, 9);
         Check.due("P28 two steps of the same cost", y.bestFor(0), 1);
-        ClipboardHistory z = Check.loaded("K200900p1:00900");
+        Clip z = Check.loaded("K200900p1:00900");
         z.copy(0, 5);
         Check.due("P28 none fits", z.bestFor(0), NONE);
         z.copy(1, 5);
@@ -155,7 +155,7 @@ public final class PastingTest {
     }
 
     private static void bestForThrows() {
-        ClipboardHistory x = Check.loaded(FORK);
+        Clip x = Check.loaded(FORK);
         Check.index("P28 bestFor(2)", () -> x.bestFor(2));
         for (int wrong : WRONG) {
             Check.index("P28 bestFor(" + wrong + ")", () -> x.bestFor(wrong));
@@ -163,7 +163,7 @@ public final class PastingTest {
     }
 
     private static void victims() {
-        ClipboardHistory x = Check.loaded(FORK);
+        Clip x = Check.loaded(FORK);
         Check.due("P29 no entry", x.victims(500), 0);
         Check.due("P29 too large", x.victims(501), NONE);
         x.copy(0, 100);
@@ -192,7 +192,7 @@ public final class PastingTest {
     }
 
     private static void victimsAtTheNewTime() {
-        ClipboardHistory x = new ClipboardHistory();
+        Clip x = new Clip();
         x.copy(0, 10);
         x.copy(0, 1);
         x.copy(0, 30);
@@ -201,7 +201,7 @@ public final class PastingTest {
     }
 
     private static void victimsOfTwelve() {
-        ClipboardHistory x = new ClipboardHistory();
+        Clip x = new Clip();
         for (int i = 1; i <= 12; i++) {
             x.copy(0, i == 5 ? 50 : 10);
         }
@@ -216,7 +216,7 @@ public final class PastingTest {
     }
 
     private static void room() {
-        ClipboardHistory x = Check.loaded(FORK);
+        Clip x = Check.loaded(FORK);
         Check.due("P30 the budget", x.room(), 500);
         x.copy(0, 100);
         Check.due("P30 beside an entry", x.room(), 400);
@@ -235,7 +235,7 @@ public final class PastingTest {
     }
 
     private static void roomOfTwelve() {
-        ClipboardHistory x = new ClipboardHistory();
+        Clip x = new Clip();
         for (int i = 0; i < 11; i++) {
             x.copy(0, 1);
         }
@@ -245,7 +245,7 @@ public final class PastingTest {
     }
 
     private static void ranked() {
-        ClipboardHistory x = Check.loaded("K100900p0:00900");
+        Clip x = Check.loaded("K100900p0:00900");
         Check.index("P31 no entry", () -> x.ranked(0));
         x.copy(0, 10);
         x.copy(0, 7);
@@ -271,7 +271,7 @@ public final class PastingTest {
         for (int i = 0; i < 4; i++) {
             Check.due("P31 after a use: ranked(" + i + ")", x.ranked(i), last[i]);
         }
-        ClipboardHistory y = new ClipboardHistory();
+        Clip y = new Clip();
         y.copy(0, 30);
         y.copy(0, 40);
         y.copy(0, 60);
@@ -281,7 +281,7 @@ public final class PastingTest {
         for (int i = 0; i < 4; i++) {
             Check.due("P31 three equals: ranked(" + i + ")", y.ranked(i), equals[i]);
         }
-        ClipboardHistory z = new ClipboardHistory();
+        Clip z = new Clip();
         z.copy(0, 11);
         z.copy(0, 21);
         // 22 and 21, then twelve entries
@@ -300,7 +300,7 @@ public final class PastingTest {
     }
 
     private static void nothingChanges() {
-        ClipboardHistory x = Check.loaded(FORK);
+        Clip x = Check.loaded(FORK);
         x.copy(0, 100);
         x.paste(0, 0);
         x.copy(0, 60);

@@ -23,13 +23,13 @@ public final class PathsTest {
         Check.finish("PathsTest");
     }
 
-    private static void path(String what, ClipboardHistory x, int a, int b, int... due) {
+    private static void path(String what, Clip x, int a, int b, int... due) {
         for (int i = 0; i < 3; i++) {
             Check.due("P19 " + what + ": path(" + a + ", " + b + ", " + i + ")", x.path(a, b, i), due[i]);
         }
     }
 
-    private static void steps(String what, ClipboardHistory x, int... due) {
+    private static void steps(String what, Clip x, int... due) {
         int b = due[due.length - 1];
         for (int i = 0; i < 8; i++) {
             int want = i < due.length ? due[i] : NONE;
@@ -38,7 +38,7 @@ public final class PathsTest {
     }
 
     private static void path() {
-        ClipboardHistory x = Check.loaded(NET);
+        Clip x = Check.loaded(NET);
         path("one step", x, 0, 1, 2, 1, 2);
         path("two steps", x, 1, 4, 4, 2, 1);
         path("to itself", x, 3, 3, 0, 0, 0);
@@ -49,7 +49,7 @@ public final class PathsTest {
     }
 
     private static void pathOfTheFewestSteps() {
-        ClipboardHistory x = Check.loaded(NET);
+        Clip x = Check.loaded(NET);
         path("fewest steps", x, 0, 2, 5, 1, 3);
         path("fewest steps, then the lower format", x, 0, 4, 6, 2, 3);
         x.setCost(2, 6);
@@ -61,17 +61,17 @@ public final class PathsTest {
 
     private static void pathSmallestLexicographically() {
         // 0 4 1 3 and 0 2 5 3: the first format that differs decides
-        ClipboardHistory x = Check.loaded("K600500c0401101c4101101c1301101c0201102c2501102c5301102");
+        Clip x = Check.loaded("K600500c0401101c4101101c1301101c0201102c2501102c5301102");
         path("0 2 5 3", x, 0, 3, 3, 3, 6);
         // 0 1 4 5 and 0 1 3 5: it decides within the path, too
-        ClipboardHistory y = Check.loaded("K600500c0101101c1401101c4501101c1301105c3501101");
+        Clip y = Check.loaded("K600500c0101101c1401101c4501101c1301105c3501101");
         path("0 1 3 5", y, 0, 5, 3, 3, 7);
-        ClipboardHistory z = Check.loaded("K400500c2103101c1001101c0301101c2001102c0101102c1303102");
+        Clip z = Check.loaded("K400500c2103101c1001101c0301101c2001102c0101102c1303102");
         path("2 0 3 is cheaper than both", z, 2, 3, 2, 2, 3);
     }
 
     private static void pathThrows() {
-        ClipboardHistory x = Check.loaded(NET);
+        Clip x = Check.loaded(NET);
         Check.argument("P19 path(0, 1, 3)", () -> x.path(0, 1, 3));
         Check.argument("P19 path(0, 5, 3), without a path", () -> x.path(0, 5, 3));
         Check.index("P19 path(6, 0, 0)", () -> x.path(6, 0, 0));
@@ -85,7 +85,7 @@ public final class PathsTest {
     }
 
     private static void step() {
-        ClipboardHistory x = Check.loaded(NET);
+        Clip x = Check.loaded(NET);
         steps("to itself", x, 5);
         steps("one step", x, 0, 2);
         steps("over 2", x, 0, 2, 4);
@@ -108,7 +108,7 @@ public final class PathsTest {
     }
 
     private static void stepOfTheLongest() {
-        ClipboardHistory x = Check.loaded("K800500c7099999c0699999c6199999c1599999c5299999c2499999c4399999");
+        Clip x = Check.loaded("K800500c7099999c0699999c6199999c1599999c5299999c2499999c4399999");
         steps("eight formats", x, 7, 0, 6, 1, 5, 2, 4, 3);
         path("eight formats", x, 7, 3, 693, 7, 63);
         Check.due("P26 in the middle", x.between(1), 12);
@@ -119,7 +119,7 @@ public final class PathsTest {
     }
 
     private static void sizeAfter() {
-        ClipboardHistory x = Check.loaded("K400500c0101151c1201331c2301010");
+        Clip x = Check.loaded("K400500c0101151c1201331c2301010");
         Check.due("P21 to itself", x.sizeAfter(0, 0, 99999), 99999);
         Check.due("P21 1.5 rounded up", x.sizeAfter(0, 1, 1), 2);
         Check.due("P21 each step rounded", x.sizeAfter(0, 2, 1), 7);
@@ -139,7 +139,7 @@ public final class PathsTest {
             Check.index("P21 sizeAfter(" + wrong + ", 0, 1)", () -> x.sizeAfter(wrong, 0, 1));
             Check.index("P21 sizeAfter(0, " + wrong + ", 1)", () -> x.sizeAfter(0, wrong, 1));
         }
-        ClipboardHistory y = Check.loaded("K300500c0101990c1201010");
+        Clip y = Check.loaded("K300500c0101990c1201010");
         Check.due("P21 at most 99999", y.sizeAfter(0, 1, 99999), 99999);
         Check.due("P21 just below", y.sizeAfter(0, 1, 10100), 99990);
         Check.due("P21 just above", y.sizeAfter(0, 1, 10101), 99999);
@@ -147,7 +147,7 @@ public final class PathsTest {
     }
 
     private static void reachable() {
-        ClipboardHistory x = Check.loaded(NET);
+        Clip x = Check.loaded(NET);
         int[] due = {31, 22, 20, 24, 16, 32};
         for (int a = 0; a < 6; a++) {
             Check.due("P22 reachable(" + a + ")", x.reachable(a), due[a]);
@@ -159,7 +159,7 @@ public final class PathsTest {
     }
 
     private static void without() {
-        ClipboardHistory x = Check.loaded(NET);
+        Clip x = Check.loaded(NET);
         Check.due("P23 over 3", x.without(5, 0, 4), 6);
         Check.due("P23 over 1", x.without(2, 0, 2), 5);
         Check.due("P23 another conversion", x.without(3, 0, 1), 2);
@@ -182,7 +182,7 @@ public final class PathsTest {
     }
 
     private static void worth() {
-        ClipboardHistory x = Check.loaded(NET);
+        Clip x = Check.loaded(NET);
         int[] due = {99, 99, 5, 99, 99, 99};
         for (int c = 0; c < 6; c++) {
             Check.due("P24 worth(" + c + ")", x.worth(c), due[c]);
@@ -200,7 +200,7 @@ public final class PathsTest {
     }
 
     private static void worthOfOneAndOfAHundred() {
-        ClipboardHistory x = Check.loaded("K300500c0101100c1201100c0299100");
+        Clip x = Check.loaded("K300500c0101100c1201100c0299100");
         Check.due("P24 two", x.worth(2), 2);
         x.setCost(0, 98);
         Check.due("P24 ninety-nine", x.worth(2), 99);
@@ -209,21 +209,21 @@ public final class PathsTest {
     }
 
     private static void idle() {
-        ClipboardHistory x = Check.loaded(NET);
+        Clip x = Check.loaded(NET);
         Check.due("P25 all are of use", x.idle(), 0);
         x.setCost(2, 6);
         Check.due("P25 the third is not", x.idle(), 4);
         x.setCost(2, 5);
         Check.due("P25 it is again", x.idle(), 0);
         Check.due("P25 a step into format 0", Check.loaded("K200500c1001100").idle(), 0);
-        ClipboardHistory y = Check.loaded("K400500c0150100c0201100c2101100c1350100c2301100c3101100");
+        Clip y = Check.loaded("K400500c0150100c0201100c2101100c1350100c2301100c3101100");
         Check.due("P25 0 1 is dearer than 0 2 1", y.idle(), 1);
         y.setCost(4, 99);
         Check.due("P25 2 3 is dearer than 2 1 3", y.idle(), 17);
     }
 
     private static void between() {
-        ClipboardHistory x = Check.loaded(NET);
+        Clip x = Check.loaded(NET);
         int[] due = {0, 0, 2, 0, 0, 0};
         for (int f = 0; f < 6; f++) {
             Check.due("P26 between(" + f + ")", x.between(f), due[f]);
@@ -233,7 +233,7 @@ public final class PathsTest {
         for (int f = 0; f < 6; f++) {
             Check.due("P26 between(" + f + ") then", x.between(f), then[f]);
         }
-        ClipboardHistory y = Check.loaded("K300500c0101100c1001100c1201100c2101100");
+        Clip y = Check.loaded("K300500c0101100c1001100c1201100c2101100");
         Check.due("P26 both directions count", y.between(1), 2);
         Check.index("P26 between(6)", () -> x.between(6));
         for (int wrong : WRONG) {
@@ -242,7 +242,7 @@ public final class PathsTest {
     }
 
     private static void nothingChanges() {
-        ClipboardHistory x = Check.loaded(NET);
+        Clip x = Check.loaded(NET);
         x.setCost(0, 3);
         String before = Check.seen(x);
         x.step(0, 4, 1);

@@ -4,7 +4,7 @@ public final class ScriptsTest {
     private static final String FORK = "K300500c0110101c0210201p1:00400p2:00400";
 
     public static void main(String[] args) {
-        ClipboardHistory x = Check.loaded(FORK);
+        Clip x = Check.loaded(FORK);
         x.copy(0, 100);
         String before = Check.seen(x);
         commands(x);
@@ -22,14 +22,14 @@ public final class ScriptsTest {
         Check.finish("ScriptsTest");
     }
 
-    private static void all(ClipboardHistory x, int due, long... scripts) {
+    private static void all(Clip x, int due, long... scripts) {
         for (long script : scripts) {
             Check.due("P32 runScript(1, " + script + ")", x.runScript(1, script), due);
         }
     }
 
     /** One entry of 100 in format 0, a budget of 500. */
-    private static void commands(ClipboardHistory x) {
+    private static void commands(Clip x) {
         all(x, NONE, 100001, 100400, 100401, 100500, 110001, 120001);
         all(x, 0, 100000, 100501, 109999, 130001, 190001);
         all(x, NONE, 210001, 220400);
@@ -49,7 +49,7 @@ public final class ScriptsTest {
         all(x, 0, 0, 1, 99999, 900000, 999999);
     }
 
-    private static void sequences(ClipboardHistory x) {
+    private static void sequences(Clip x) {
         Check.due("P32 copy, two entries, 120", x.runScript(3, 100020700002600120L), NONE);
         Check.due("P32 copy, not one entry", x.runScript(3, 100020700001600120L), 1);
         Check.due("P32 copy, two entries, more than 119", x.runScript(3, 100020700002600119L), 2);
@@ -72,7 +72,7 @@ public final class ScriptsTest {
     }
 
     private static void twoDigits() {
-        ClipboardHistory x = new ClipboardHistory();
+        Clip x = new Clip();
         for (int i = 1; i <= 12; i++) {
             x.copy(0, i);
         }
@@ -83,7 +83,7 @@ public final class ScriptsTest {
     }
 
     private static void greatSizes() {
-        ClipboardHistory x = Check.loaded("K299999");
+        Clip x = Check.loaded("K299999");
         Check.due("P32 9999 in format 0", x.runScript(3, 109999800000609999L), NONE);
         Check.due("P32 9999 in format 1", x.runScript(3, 119999800100609999L), NONE);
         Check.due("P32 offer 9999 in format 0", x.runScript(3, 110001209999800000L), NONE);
@@ -91,7 +91,7 @@ public final class ScriptsTest {
     }
 
     private static void scriptThrows() {
-        ClipboardHistory x = new ClipboardHistory();
+        Clip x = new Clip();
         int[] numbers = {0, 4, -1, Integer.MIN_VALUE, Integer.MAX_VALUE};
         for (int n : numbers) {
             Check.argument("P32 runScript(" + n + ", 100001)", () -> x.runScript(n, 100001));
@@ -122,7 +122,7 @@ public final class ScriptsTest {
     }
 
     private static void simulatedCopies() {
-        ClipboardHistory x = new ClipboardHistory();
+        Clip x = new Clip();
         x.setBudget(99999);
         for (long seed = -20; seed < 20; seed++) {
             int sum = 0;
@@ -138,10 +138,10 @@ public final class ScriptsTest {
 
     /** Two entries, and one or two places: what a paste answers tells which ones it took. */
     private static void simulatedPastes() {
-        ClipboardHistory x = Check.loaded("K299999c0110101c1099101p1:00400");
+        Clip x = Check.loaded("K299999c0110101c1099101p1:00400");
         x.copy(0, 30);
         x.copy(0, 100);
-        ClipboardHistory y = Check.loaded("K399999c0110101c0220101p1:00400p2:00400");
+        Clip y = Check.loaded("K399999c0110101c0220101p1:00400p2:00400");
         y.copy(0, 30);
         y.copy(0, 100);
         for (long seed = -50; seed < 50; seed++) {
@@ -155,13 +155,13 @@ public final class ScriptsTest {
     }
 
     private static void roundsWithoutEffect() {
-        ClipboardHistory x = Check.loaded("K200500p1:00400");
+        Clip x = Check.loaded("K200500p1:00400");
         x.copy(0, 500);
         x.togglePin(0);
         for (long seed = 0; seed < 20; seed++) {
             Check.due("P33 neither can be copied nor pasted", x.simulate(seed, 50), 500);
         }
-        ClipboardHistory y = Check.loaded("K200500c0107101p1:00400");
+        Clip y = Check.loaded("K200500c0107101p1:00400");
         y.copy(0, 100);
         y.paste(0, 0);
         y.setBudget(200);
@@ -173,7 +173,7 @@ public final class ScriptsTest {
 
     /** Worked out by the slow Model. */
     private static void simulatedRun() {
-        ClipboardHistory x = Check.loaded(FORK);
+        Clip x = Check.loaded(FORK);
         x.copy(0, 100);
         Model model = new Model();
         for (char c : FORK.toCharArray()) {
@@ -189,7 +189,7 @@ public final class ScriptsTest {
     }
 
     private static void simulateThrows() {
-        ClipboardHistory x = new ClipboardHistory();
+        Clip x = new Clip();
         int[] numbers = {0, 51, -1, Integer.MIN_VALUE, Integer.MAX_VALUE};
         for (int m : numbers) {
             Check.argument("P33 simulate(1, " + m + ")", () -> x.simulate(1, m));

@@ -13,7 +13,7 @@ public final class SlotsTest {
     }
 
     private static void save() {
-        ClipboardHistory x = Check.loaded(FORK);
+        Clip x = Check.loaded(FORK);
         Check.due("P34 no entries", x.save(0), 0);
         x.copy(0, 5);
         x.copy(0, 6);
@@ -34,7 +34,7 @@ public final class SlotsTest {
     }
 
     private static void restoreBringsTheWholeState() {
-        ClipboardHistory x = Check.loaded(FORK);
+        Clip x = Check.loaded(FORK);
         x.copy(0, 100);
         x.paste(0, 0);
         x.togglePin(0);
@@ -58,7 +58,7 @@ public final class SlotsTest {
     }
 
     private static void restoreForgets() {
-        ClipboardHistory x = Check.loaded(FORK);
+        Clip x = Check.loaded(FORK);
         x.copy(0, 100);
         x.save(1);
         x.copy(0, 100);
@@ -69,7 +69,7 @@ public final class SlotsTest {
     }
 
     private static void slotKeepsItsState() {
-        ClipboardHistory x = Check.loaded(FORK);
+        Clip x = Check.loaded(FORK);
         x.copy(0, 100);
         x.save(0);
         String before = Check.seen(x);
@@ -87,7 +87,7 @@ public final class SlotsTest {
     }
 
     private static void restoreThrows() {
-        ClipboardHistory x = Check.loaded(FORK);
+        Clip x = Check.loaded(FORK);
         x.copy(0, 100);
         String before = Check.seen(x);
         Check.state("P35 an empty slot", () -> x.restore(0));

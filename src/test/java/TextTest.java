@@ -16,7 +16,7 @@ public final class TextTest {
     }
 
     private static void append() {
-        ClipboardHistory x = new ClipboardHistory();
+        Clip x = new Clip();
         Check.argument("P2 append(-1)", () -> x.append(-1));
         Check.argument("P2 append(256)", () -> x.append(256));
         Check.argument("P2 append(MIN)", () -> x.append(Integer.MIN_VALUE));
@@ -33,7 +33,7 @@ public final class TextTest {
     }
 
     private static void clearText() {
-        ClipboardHistory x = new ClipboardHistory();
+        Clip x = new Clip();
         Check.due("P3 clearText of a new object", x.clearText(), 0);
         Check.withText(x, "K1");
         Check.due("P3 clearText", x.clearText(), 2);
@@ -44,7 +44,7 @@ public final class TextTest {
     }
 
     private static void position(String text, int want) {
-        Check.due("P4 errorPosition of " + text, Check.withText(new ClipboardHistory(), text).errorPosition(), want);
+        Check.due("P4 errorPosition of " + text, Check.withText(new Clip(), text).errorPosition(), want);
     }
 
     private static void errorPosition() {
@@ -144,7 +144,7 @@ public final class TextTest {
     }
 
     private static void errorPositionChangesNothing() {
-        ClipboardHistory x = Check.loaded("K300500c0105151c1202052p02:00400");
+        Clip x = Check.loaded("K300500c0105151c1202052p02:00400");
         x.copy(0, 10);
         x.setCost(0, 7);
         x.save(1);
@@ -161,7 +161,7 @@ public final class TextTest {
     }
 
     private static void load() {
-        ClipboardHistory x = Check.withText(new ClipboardHistory(), "K300500c0105151c1299993p02:00400p1:99999");
+        Clip x = Check.withText(new Clip(), "K300500c0105151c1299993p02:00400p1:99999");
         Check.due("P5 load", x.load(), 2);
         int[] about = {3, 2, 2, 0, 500, 0, 0, 0};
         for (int what = 0; what < 8; what++) {
@@ -181,7 +181,7 @@ public final class TextTest {
     }
 
     private static void loadForgets() {
-        ClipboardHistory x = Check.loaded("K200500c0105101p1:00400");
+        Clip x = Check.loaded("K200500c0105101p1:00400");
         x.copy(0, 100);
         x.paste(0, 0);
         x.setCost(0, 9);
@@ -208,7 +208,7 @@ public final class TextTest {
     }
 
     private static void loadThrows() {
-        ClipboardHistory x = new ClipboardHistory();
+        Clip x = new Clip();
         Check.state("P5 load of no text", x::load);
         Check.withText(x, "K200500c0105101p1:00400");
         x.load();
@@ -225,7 +225,7 @@ public final class TextTest {
     }
 
     private static void readmeExample() {
-        ClipboardHistory x = Check.withText(new ClipboardHistory(), "K200300c0105101p1:00090");
+        Clip x = Check.withText(new Clip(), "K200300c0105101p1:00090");
         Check.due("README load", x.load(), 1);
         Check.due("README copy", x.copy(0, 60), 60);
         Check.due("README paste", x.paste(0, 0), 1);

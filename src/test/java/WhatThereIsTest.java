@@ -5,7 +5,7 @@ public final class WhatThereIsTest {
 
     public static void main(String[] args) {
         newObject();
-        ClipboardHistory x = used();
+        Clip x = used();
         about(x);
         conversion(x);
         place(x);
@@ -16,7 +16,7 @@ public final class WhatThereIsTest {
     }
 
     private static void newObject() {
-        ClipboardHistory x = new ClipboardHistory();
+        Clip x = new Clip();
         int[] about = {1, 0, 0, 0, 1000, 0, 0, 0};
         for (int what = 0; what < 8; what++) {
             Check.due("P1 about(" + what + ")", x.about(what), about[what]);
@@ -34,12 +34,12 @@ public final class WhatThereIsTest {
         Check.index("P1 place(0, 0)", () -> x.place(0, 0));
         Check.index("P1 copy(1, 1)", () -> x.copy(1, 1));
         Check.due("P1 copy(0, 1000)", x.copy(0, 1000), 1000);
-        Check.due("P1 two objects share nothing", new ClipboardHistory().about(3), 0);
+        Check.due("P1 two objects share nothing", new Clip().about(3), 0);
     }
 
     /** Entry 1: pasted at the time 2 from format 0 (101) over format 1 (152) into format 2 (76). Entry 0: new. */
-    private static ClipboardHistory used() {
-        ClipboardHistory x = Check.loaded("K300500c0105151c1202052p02:00100p1:00030p2:00100");
+    private static Clip used() {
+        Clip x = Check.loaded("K300500c0105151c1202052p02:00100p1:00030p2:00100");
         x.copy(0, 101);
         Check.due("paste(0, 2)", x.paste(0, 2), 2);
         x.copy(1, 20);
@@ -47,7 +47,7 @@ public final class WhatThereIsTest {
         return x;
     }
 
-    private static void about(ClipboardHistory x) {
+    private static void about(Clip x) {
         int[] about = {3, 2, 3, 2, 500, 197, 3, 7};
         for (int what = 0; what < 8; what++) {
             Check.due("P6 about(" + what + ")", x.about(what), about[what]);
@@ -58,7 +58,7 @@ public final class WhatThereIsTest {
         }
     }
 
-    private static void conversion(ClipboardHistory x) {
+    private static void conversion(Clip x) {
         int[][] due = {{0, 1, 5, 15, 1}, {1, 2, 2, 5, 2}};
         for (int c = 0; c < 2; c++) {
             for (int what = 0; what < 5; what++) {
@@ -77,7 +77,7 @@ public final class WhatThereIsTest {
         }
     }
 
-    private static void place(ClipboardHistory x) {
+    private static void place(Clip x) {
         int[][] due = {{5, 100}, {2, 30}, {4, 100}};
         for (int p = 0; p < 3; p++) {
             for (int what = 0; what < 2; what++) {
@@ -94,7 +94,7 @@ public final class WhatThereIsTest {
         Check.due("P8 eight formats", Check.loaded("K800001p01234567:00001").place(0, 0), 255);
     }
 
-    private static void entry(ClipboardHistory x) {
+    private static void entry(Clip x) {
         int[][] due = {{20, 2, 0, 0, 0, 3, 20}, {177, 5, 4, 1, 1, 2, 177}};
         for (int e = 0; e < 2; e++) {
             for (int what = 0; what < 7; what++) {
@@ -111,7 +111,7 @@ public final class WhatThereIsTest {
     }
 
     private static void weight() {
-        ClipboardHistory x = Check.loaded("K100900p0:00900");
+        Clip x = Check.loaded("K100900p0:00900");
         x.copy(0, 7);
         Check.due("P9 a new entry's weight is its size", x.entry(0, 6), 7);
         x.paste(0, 0);
@@ -125,7 +125,7 @@ public final class WhatThereIsTest {
         Check.due("P9 last use", x.entry(2, 5), 3);
     }
 
-    private static void form(ClipboardHistory x) {
+    private static void form(Clip x) {
         int[][] sizes = {{NONE, 20, NONE}, {101, NONE, 76}};
         int[][] losses = {{NONE, 0, NONE}, {0, NONE, 3}};
         for (int e = 0; e < 2; e++) {

@@ -42,10 +42,11 @@ final class Edge {
         Check.same(what + ": what is there then", lookedThrough(x), lookedThrough(recipe.make()));
     }
 
-    /** The call answers this and changes nothing. */
+    /** The call answers this, asked again the same, and changes nothing. */
     static void asked(String what, int want, Recipe recipe, On call) {
         Clip x = recipe.make();
         Check.answers(what, want, () -> call.run(x));
+        Check.answers(what + ", asked again", want, () -> call.run(x));
         Check.same(what + ": what is there then", lookedThrough(x), lookedThrough(recipe.make()));
     }
 

@@ -16,6 +16,7 @@ public final class EdgePathsTest {
         fewestSteps();
         smallestSequence();
         longestPath();
+        highestFormat();
         pathArguments();
         stepArguments();
         stepsAndBeyond();
@@ -164,6 +165,22 @@ public final class EdgePathsTest {
         path("six steps", x, 7, 1, 594, 6, 54);
         Check.due("P20 six steps have no eighth format", x.step(7, 1, 7), NONE);
         Check.due("P20 six steps have a seventh", x.step(7, 1, 6), 1);
+    }
+
+    // "There are 1 to 8 formats, numbered from 0": the highest one may begin, end and be on a path, and so may the lowest
+    private static void highestFormat() {
+        Clip x = Check.loaded("K800500c0701101c7102102c2003104c1604101");
+        formats("over 7", x, 0, 7, 1);
+        formats("over 0 and 7", x, 2, 0, 7, 1);
+        formats("over 0, 7 and 1", x, 2, 0, 7, 1, 6);
+        formats("over 0 to 7", x, 2, 0, 7);
+        formats("from 7", x, 7, 1, 6);
+        path("over 0, 7 and 1", x, 2, 6, 10, 4, 8);
+        Check.due("P26 between(7)", x.between(7), 4);
+        Check.due("P26 between(0)", x.between(0), 3);
+        Check.due("P22 reachable(2)", x.reachable(2), 0b11000111);
+        Check.due("P23 without 7 1", x.without(1, 2, 6), NONE);
+        Check.due("P25 idle()", x.idle(), 0);
     }
 
     // "Throws IndexOutOfBoundsException if there is no such format"; "IllegalArgumentException if what is not 0 to 2"

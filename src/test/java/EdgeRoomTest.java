@@ -15,6 +15,8 @@ public final class EdgeRoomTest {
         derivedFormsOfSeveralEntries();
         derivedFormsOfOneEntry();
         derivedFormsOfPinnedEntries();
+        derivedFormsAndNoOthers();
+        derivedFormsOfTheLowestAndHighestFormat();
         derivedFormsBeforeEntries();
         weightsWithoutDerivedForms();
         heaviestEntry();
@@ -22,6 +24,8 @@ public final class EdgeRoomTest {
         heaviestIsPinned();
         timeOfTheWeights();
         failsAndChangesNothing();
+        roomOfTwelve();
+        eightyFourRemovals();
         copySizes();
         copyArguments();
         newEntry();
@@ -32,6 +36,7 @@ public final class EdgeRoomTest {
         offerWithoutEntry();
         offerSizes();
         offerArguments();
+        offerAfterOthersWereRemoved();
         offerOfAnOriginalForm();
         offerOfADerivedForm();
         offerWithoutTouchingEntry0();
@@ -180,6 +185,46 @@ public final class EdgeRoomTest {
         lastUses("P11 both entries stay", y, 4, 3, 2);
     }
 
+    // What is removed is that form; the others stay as they are.
+    private static void derivedFormsAndNoOthers() {
+        // 100 in format 0, 30 offered in 2, and 50 derived in 1
+        Clip x = Edge.after(Edge.of("K400500c0110051p1:00400"), z -> z.copy(0, 100), z -> z.paste(0, 0), z -> z.offer(2, 30)).make();
+        Check.due("P16 50 go", x.setBudget(179), 130);
+        Check.due("P9 the forms that are left", x.entry(0, 1), 5);
+        Check.due("P9 no derived ones", x.entry(0, 2), 0);
+        Check.due("P9 its size", x.entry(0, 0), 130);
+        int[] sizes = {100, -9, 30, -9};
+        for (int f = 0; f < 4; f++) {
+            Check.due("P10 form(0, " + f + ", false)", x.form(0, f, false), sizes[f]);
+            Check.due("P10 form(0, " + f + ", true)", x.form(0, f, true), sizes[f] < 0 ? -9 : 0);
+        }
+        Check.due("P13 it can be made again", x.paste(0, 0), 1);
+        Check.due("P13 not without room", x.entry(0, 1), 5);
+        x.setBudget(180);
+        x.paste(0, 0);
+        Check.due("P13 with room", x.entry(0, 1), 7);
+    }
+
+    // 100 in format 1, and derived forms of 50 and 20 in the formats 0 and 7
+    private static void derivedFormsOfTheLowestAndHighestFormat() {
+        Edge.Recipe some = Edge.after(Edge.of("K800500c1010051c1710021p0:00400p7:00400"), x -> x.copy(1, 100), x -> x.paste(0, 0),
+            x -> x.paste(0, 1), x -> x.togglePin(0));
+        Edge.answers("P6 170 are used", 170, some, x -> x.about(5));
+        Edge.answers("P30 both can go", 400, some, Clip::room);
+        Edge.answers("P11 both go", 500, some, x -> x.copy(0, 400));
+        Edge.refused("P11 nothing else can go", Edge.STATE, some, x -> x.copy(0, 401));
+        Edge.answers("P16 both go", 100, some, x -> x.setBudget(100));
+        Edge.refused("P16 nothing else can go", Edge.STATE, some, x -> x.setBudget(99));
+        Edge.Recipe another = Edge.after(some, x -> x.copy(2, 1));
+        Edge.answers("P12 both go", 500, another, x -> x.offer(0, 399));
+        Edge.refused("P12 nothing else can go", Edge.STATE, another, x -> x.offer(0, 400));
+        Clip x = some.make();
+        Check.due("P16 the larger one goes", x.setBudget(169), 120);
+        derivedSets("P16 the smaller one is left", x, 128);
+        Check.due("P16 just enough", x.setBudget(120), 120);
+        Check.due("P16 the smaller one goes", x.setBudget(119), 100);
+    }
+
     // "Otherwise, it is the entry": only when no derived form is left
     private static void derivedFormsBeforeEntries() {
         // entry 1 has 1 and a derived form of 1, entry 0 has 400
@@ -279,6 +324,60 @@ public final class EdgeRoomTest {
         Edge.answers("P16 the pinned 100", 100, some, x -> x.setBudget(100));
         Edge.refused("P16 the pinned 100", Edge.STATE, some, x -> x.setBudget(99));
         Edge.refused("P11 there is no entry at all", Edge.STATE, Edge.of(FORK), x -> x.copy(0, 501));
+    }
+
+    // Twelve entries are as many as there can be, and each of them can make room.
+    private static void roomOfTwelve() {
+        Clip budget = twelve(0, 0).make();
+        Check.due("P16 one of twelve goes", budget.setBudget(119), 110);
+        Check.due("P16 one of twelve goes", budget.entry(10, 5), 2);
+        Edge.Recipe full = () -> {
+            Clip x = Check.loaded("K200900c0110101p1:00400");
+            for (int i = 0; i < 12; i++) {
+                x.copy(0, 10);
+                x.paste(0, 0);
+            }
+            return x;
+        };
+        Clip derived = full.make();
+        Check.due("P16 one derived form of twelve goes", derived.setBudget(239), 230);
+        derivedSets("P16 that of the last entry", derived, 2, 2, 2, 2, 2, 2, 2, 2, 2, 2, 2, 0);
+        Check.due("P16 all derived forms go", derived.setBudget(120), 120);
+        derivedSets("P16 all derived forms go", derived, 0, 0, 0, 0, 0, 0, 0, 0, 0, 0, 0, 0);
+        Clip offered = Edge.after(full, x -> x.setBudget(240)).make();
+        Check.due("P12 the own derived form is replaced, and another one goes", offered.offer(1, 11), 231);
+        derivedSets("P12 that of the last entry", offered, 0, 2, 2, 2, 2, 2, 2, 2, 2, 2, 2, 0);
+        Clip pasted = Edge.after(full, x -> x.remove(0), x -> x.copy(0, 10), x -> x.setBudget(230)).make();
+        Check.due("P13 another one's derived form goes", pasted.paste(0, 0), 1);
+        derivedSets("P13 that of the last entry", pasted, 2, 2, 2, 2, 2, 2, 2, 2, 2, 2, 2, 0);
+    }
+
+    // "as long as": however many have to go
+    private static void eightyFourRemovals() {
+        Edge.Recipe full = () -> {
+            StringBuilder text = new StringBuilder("K809999");
+            for (int f = 1; f <= 6; f++) {
+                text.append("c0").append(f).append("10101p").append(f).append(":00100");
+            }
+            Clip x = Check.loaded(text.toString());
+            for (int i = 0; i < 12; i++) {
+                x.copy(0, 10);
+                for (int p = 0; p < 6; p++) {
+                    x.paste(0, p);
+                }
+            }
+            return x;
+        };
+        Clip x = full.make();
+        Check.due("P6 twelve entries of seven forms", x.about(5), 840);
+        Check.due("P16 72 derived forms go", x.setBudget(120), 120);
+        Check.due("P16 no entry goes", x.about(3), 12);
+        x.undo();
+        Check.due("P18 all are back", x.about(5), 840);
+        Check.due("P16 72 derived forms and twelve entries go", x.setBudget(9), 0);
+        x.undo();
+        Check.due("P11 a copy in their stead", x.copy(0, 9999), 9999);
+        lastUses("P11 a copy in their stead", x, 85);
     }
 
     // "size: 1 to 9999"; "Returns the used size then."
@@ -460,6 +559,18 @@ public final class EdgeRoomTest {
         Edge.refused("P12 the size is named before the state", Edge.ARGUMENT, some, x -> x.offer(1, 0));
         Edge.refused("P12 the size is named before the state", Edge.ARGUMENT, some, x -> x.offer(1, 10000));
         Edge.refused("P12 the state alone", Edge.STATE, some, x -> x.offer(1, 9999));
+    }
+
+    // An entry has only its own forms, whatever entries there were before it.
+    private static void offerAfterOthersWereRemoved() {
+        Clip x = Edge.after(Edge.of(FORK), y -> y.copy(1, 50), y -> y.offer(2, 60), y -> y.remove(0), y -> y.copy(0, 10)).make();
+        Check.due("P12 a format that a removed entry had", x.offer(1, 5), 15);
+        Check.due("P12 another one", x.offer(2, 6), 21);
+        Check.due("P9 its size", x.entry(0, 0), 21);
+        Check.due("P9 its forms", x.entry(0, 1), 7);
+        Clip y = Edge.after(DERIVED, z -> z.setBudget(150), z -> z.remove(0)).make();
+        Check.due("P12 a format in which a derived form was removed", y.offer(1, 7), 107);
+        Check.due("P9 its size", y.entry(0, 0), 107);
     }
 
     // "entry 0 has an original form in this format"

@@ -16,6 +16,7 @@ public final class EdgeUndoTest {
         undoAndOn();
         undoOfNothing();
         undoBringsAllBack();
+        undoBringsAllFormsBack();
         textAndSlotsStay();
         undoLoadAndRestoreAreNoActions();
         pins();
@@ -172,6 +173,37 @@ public final class EdgeUndoTest {
         Check.due("P18 the uses", y.entry(0, 4), 0);
         Check.due("P18 the last use", y.entry(0, 5), 1);
         Check.due("P18 the time", y.about(6), 1);
+    }
+
+    private static void undoBringsAllFormsBack() {
+        // 0 to 7 and 7 to 0; an entry of each, with a derived form of the other format
+        Edge.Recipe some = Edge.after(Edge.of("K800900c0710203c7010305p0:00900p7:00900"), x -> x.copy(0, 10), x -> x.paste(0, 1),
+            x -> x.copy(7, 100), x -> x.paste(0, 0), x -> x.save(0));
+        int[][] due = {{300, 5, 100, 0}, {10, 0, 20, 3}};
+        for (int how = 0; how < 2; how++) {
+            Clip x = some.make();
+            x.remove(0);
+            x.remove(0);
+            x.copy(0, 77);
+            x.offer(7, 78);
+            x.copy(7, 79);
+            x.offer(0, 80);
+            if (how == 0) {
+                Check.due("P35 restore", x.restore(0), 2);
+            } else {
+                for (int left = 9; left >= 4; left--) {
+                    Check.due("P18 undo", x.undo(), left);
+                }
+            }
+            for (int e = 0; e < 2; e++) {
+                Check.due("P18 the size in format 0", x.form(e, 0, false), due[e][0]);
+                Check.due("P18 the loss in format 0", x.form(e, 0, true), due[e][1]);
+                Check.due("P18 the size in format 7", x.form(e, 7, false), due[e][2]);
+                Check.due("P18 the loss in format 7", x.form(e, 7, true), due[e][3]);
+                Check.due("P18 the forms", x.entry(e, 1), 129);
+                Check.due("P18 the derived forms", x.entry(e, 2), e == 0 ? 1 : 128);
+            }
+        }
     }
 
     // "The text and the save slots are not part of the state."

@@ -183,6 +183,22 @@ public final class EdgeRoomTest {
         Clip y = Edge.after(DERIVED, z -> z.togglePin(1)).make();
         Check.due("P11 it goes before the entry that is not pinned", y.copy(0, 300), 450);
         lastUses("P11 both entries stay", y, 4, 3, 2);
+        Edge.Recipe pinned = Edge.after(DERIVED, z -> z.togglePin(1), z -> z.togglePin(0));
+        Edge.asked("P29 a pinned entry's derived form is no entry", 0, pinned, z -> z.victims(350));
+        Edge.asked("P29 a pinned entry itself", -9, pinned, z -> z.victims(351));
+        Edge.asked("P30 beside what is original and pinned", 350, pinned, z -> z.room());
+        Clip offered = pinned.make();
+        Check.due("P12 a pinned entry's derived form", offered.offer(1, 350), 500);
+        derivedSets("P12 a pinned entry's derived form", offered, 0, 0);
+        Edge.refused("P12 a pinned entry itself", Edge.STATE, pinned, z -> z.offer(1, 351));
+        Clip budget = pinned.make();
+        Check.due("P16 a pinned entry's derived form", budget.setBudget(249), 150);
+        derivedSets("P16 a pinned entry's derived form", budget, 0, 0);
+        Edge.refused("P16 a pinned entry itself", Edge.STATE, pinned, z -> z.setBudget(149));
+        Clip pasted = Edge.after(pinned, z -> z.setBudget(250)).make();
+        Check.due("P13 a pinned entry's derived form makes way", pasted.paste(0, 0), 1);
+        Check.due("P13 for the one that was pasted", pasted.about(5), 200);
+        derivedSets("P13 for the one that was pasted", pasted, 2, 0);
     }
 
     // What is removed is that form; the others stay as they are.

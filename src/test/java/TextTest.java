@@ -11,7 +11,6 @@ public final class TextTest {
         load();
         loadForgets();
         loadThrows();
-        readmeExample();
         Check.finish("TextTest");
     }
 
@@ -222,13 +221,5 @@ public final class TextTest {
         Check.due("P5 what is remembered after a refused load", x.undo(), 1);
         Check.due("P5 the slot after a refused load", x.restore(1), 1);
         Check.due("P5 the text after a refused load", x.clearText(), 22);
-    }
-
-    private static void readmeExample() {
-        Clip x = Check.withText(new Clip(), "K200300c0105101p1:00090");
-        Check.due("README load", x.load(), 1);
-        Check.due("README copy", x.copy(0, 60), 60);
-        Check.due("README paste", x.paste(0, 0), 1);
-        Check.due("README undo", x.undo(), 1);
     }
 }
